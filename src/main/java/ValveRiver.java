@@ -952,11 +952,11 @@ public final class ValveRiver {
         private static final int MILL_TRUSTS = TRUSTS + 1;
         private static final int FISH_TRUSTS = 3;
 
-        int kind = WATCHER;
-        int cell = 0;
-        int want = 5;
-        int belief = 50;
-        int thirst = 0;
+        int kind;
+        int cell;
+        int want;
+        int belief;
+        int thirst;
 
         void begin(int itsKind, int itsCell) {
             kind = itsKind;
@@ -1272,40 +1272,24 @@ public final class ValveRiver {
             end = start;
             if (start >= length) {
                 token = END;
-            } else if (isLetter(tape[start])) {
-                token = WORD;
-                end = endOfWord();
-            } else if (isDigit(tape[start])) {
-                token = NUMBER;
-                end = endOfNumber();
-            } else {
-                token = tape[start] == ';' ? SIGN : UNKNOWN;
-                end = start + 1;
+                return;
+            }
+            token = tokenOf(tape[start]);
+            end++;
+            // Words and numbers are as long as can be; a sign is one byte.
+            while (end < length && (token == WORD || token == NUMBER) && tokenOf(tape[end]) == token) {
+                end++;
             }
         }
 
-        private int endOfWord() {
-            int at = start;
-            while (at < length && isLetter(tape[at])) {
-                at++;
+        private static int tokenOf(int b) {
+            if (b >= 'a' && b <= 'z') {
+                return WORD;
             }
-            return at;
-        }
-
-        private int endOfNumber() {
-            int at = start;
-            while (at < length && isDigit(tape[at])) {
-                at++;
+            if (b >= '0' && b <= '9') {
+                return NUMBER;
             }
-            return at;
-        }
-
-        private static boolean isLetter(int b) {
-            return b >= 'a' && b <= 'z';
-        }
-
-        private static boolean isDigit(int b) {
-            return b >= '0' && b <= '9';
+            return b == ';' ? SIGN : UNKNOWN;
         }
     }
 }

@@ -42,6 +42,7 @@ public final class AheadTest {
             due.is("ahead(1, " + n + ")", x.ahead(1, n), second[n]);
         }
         due.is("ahead(0, 100)", x.ahead(0, 100), 20);
+        due.is("ahead(11, 100)", x.ahead(11, 100), 20);
         due.is("ahead(0, 101)", x.ahead(0, 101), Due.BEYOND);
         due.is("ahead(0, -1)", x.ahead(0, -1), Due.BEYOND);
         due.is("ahead(12, 0)", x.ahead(12, 0), Due.BEYOND);
@@ -133,6 +134,8 @@ public final class AheadTest {
         due.is("reaches(0, -1)", x.reaches(0, -1), Due.BEYOND);
         due.is("reaches(12, 0)", x.reaches(12, 0), Due.BEYOND);
         due.is("reaches(-1, 0)", x.reaches(-1, 0), Due.BEYOND);
+        x.level(10, 2);
+        due.is("reaches(11, 1)", x.reaches(11, 1), 1);
         x.level(0, 9999);
         due.is("reaches(0, 9999) at once", x.reaches(0, 9999), 0);
         due.is("now(0) still", x.now(0), 0);
@@ -149,6 +152,7 @@ public final class AheadTest {
         due.is("range(0, 2, 1)", x.range(0, 2, 1), 100);
         due.is("range(0, 100, 0)", x.range(0, 100, 0), 1);
         due.is("range(1, 100, 1)", x.range(1, 100, 1), 50);
+        due.is("range(11, 100, 0)", x.range(11, 100, 0), 0);
         due.is("range(0, 101, 0)", x.range(0, 101, 0), Due.BEYOND);
         due.is("range(0, -1, 0)", x.range(0, -1, 0), Due.BEYOND);
         due.is("range(12, 0, 0)", x.range(12, 0, 0), Due.BEYOND);
@@ -208,11 +212,18 @@ public final class AheadTest {
         due.is("safe(0, 0)", x.safe(0, 0), 0);
         due.is("safe(5, 5)", x.safe(5, 5), 0);
         due.is("safe(5, 6)", x.safe(5, 6), 7);
+        due.is("safe(7, 7)", x.safe(7, 7), 0);
+        due.is("safe(7, 8)", x.safe(7, 8), 7);
         x.plan(1, 60);
         due.is("safe(0, 2) when it shows all the same", x.safe(0, 2), Due.NONE);
         due.is("safe(1, 2)", x.safe(1, 2), 7);
         x.change(0, 3, 0);
         due.is("safe(0, 60) with one who knows", x.safe(0, 60), 0);
+        x.change(0, 3, 20);
+        x.level(0, 204);
+        due.is("safe(0, 1) with all that there is", x.safe(0, 1), 99);
+        x.level(0, 206);
+        due.is("safe(0, 1) with more than there is", x.safe(0, 1), Due.NONE);
         due.is("safe(8, 0)", x.safe(8, 0), Due.BEYOND);
         due.is("safe(-1, 0)", x.safe(-1, 0), Due.BEYOND);
         due.is("safe(0, 61)", x.safe(0, 61), Due.BEYOND);

@@ -35,6 +35,9 @@ public final class ImagesTest {
         x.go(50);
         x.steady(1);
         x.watcher(2, 2);
+        for (int what = 0; what < 5; what++) {
+            x.change(1, what, 1);
+        }
         x.hold(1, 1);
         x.hold(6, -1);
         for (int what = 0; what < 5; what++) {
@@ -68,7 +71,10 @@ public final class ImagesTest {
         due.is("undo() again: it stays", x.undo(), 3);
         due.is("stands(5)", x.stands(5), 77);
         due.is("a new one behind undo()", x.watcher(3, 7), 1);
-        due.is("it is as at first", x.of(1, 3), 50);
+        int[] begin = {3, 7, 5, 50, 0};
+        for (int what = 0; what < 5; what++) {
+            due.is("of(1, " + what + ") is as at first", x.of(1, what), begin[what]);
+        }
     }
 
     private static void keptTwice() {

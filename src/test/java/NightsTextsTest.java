@@ -175,7 +175,8 @@ public final class NightsTextsTest {
             "millat 1", "mill at 1wants", "level", "level 12 0", "level 0 10000", "level 0 99999999999", "level 0",
             "level 4294967296 0", "level 0 0 0", "level x", "plan 8 0", "plan 7 100", "plan 7", "plan", "plan 7 ;",
             "steady", "steady 100", "steady 1 2", "steady -1", "mill\tat 1", "mill at 1,", "mill at 1#", "#",
-            "10000", "mill 10000", "level 3;", "steady 5;mill at 3;level 1 2;plan 1 100"};
+            "10000", "mill 10000", "level 3;", "steady 5;mill at 3;level 1 2;plan 1 100",
+            "millz", "amill", "bill", "milk", "mill{", "mill`", "mill/", "mill:", "mil", "MILL", "mill\n"};
         int[] places = {
             0, 3, 0, 5, 6, 5, 5, 5, 0, 0, 0, 0,
             7, 8, 8, 8, 10, 11, 10,
@@ -183,7 +184,8 @@ public final class NightsTextsTest {
             0, 14, 5, 6, 8, 8, 7,
             6, 10, 6, 5, 7, 6, 4, 7,
             6, 7, 9, 7, 4, 9, 9, 0,
-            0, 5, 7, 36};
+            0, 5, 7, 36,
+            0, 0, 0, 0, 4, 4, 4, 4, 0, 0, 4};
         for (int i = 0; i < texts.length; i++) {
             ValveRiver x = new ValveRiver();
             x.watcher(0, 1);

@@ -128,6 +128,12 @@ public final class SheetsTest {
         due.is("copy of none at the end", x.copy(0, 5, 1, 3, 0), 0);
         due.is("copy(0, 2, 1, 0, 3)", x.copy(0, 2, 1, 0, 3), 3);
         row(x, 1, 3, 4, 5);
+        due.sheet(x, 3, 16, 0, 0, 0);
+        due.is("copy to the last one", x.copy(1, 0, 3, 0, 3), 3);
+        row(x, 3, 3, 4, 5);
+        due.sheet(x, 1, 16, 0, 0, 0);
+        due.is("copy from the last one", x.copy(3, 1, 1, 0, 2), 2);
+        row(x, 1, 4, 5, 0);
         due.is("copy on itself, up", x.copy(0, 0, 0, 1, 4), 4);
         row(x, 0, 1, 1, 2, 3, 4);
         due.sheet(x, 0, 16, 1, 2, 3, 4, 5);

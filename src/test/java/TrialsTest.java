@@ -96,6 +96,9 @@ public final class TrialsTest {
         due.is("watch(1)", x.watch(1), 0);
         x.steady(0);
         due.is("watch(60) where nothing changes", x.watch(60), 0);
+        x.level(1, 100);
+        due.is("watch(1) at cell 1", x.watch(1), 1);
+        x.level(1, 0);
         x.level(5, 100);
         due.is("watch(1) of two alike", x.watch(1), 5);
         x.level(5, 0);
@@ -134,6 +137,7 @@ public final class TrialsTest {
         both(x, 1, 0, 0, 100, 0);
         due.sheet(x, 2, 8, 255, 10);
         both(x, 2, 5, 0, 100, 0);
+        both(x, 2, 7, 11, 0, Due.NONE);
         due.sheet(x, 3, 8, -1, 99);
         both(x, 3, 0, 0, 1, 99);
         int[] nineDays = new int[40];
