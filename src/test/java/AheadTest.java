@@ -139,6 +139,11 @@ public final class AheadTest {
         x.level(0, 9999);
         due.is("reaches(0, 9999) at once", x.reaches(0, 9999), 0);
         due.is("now(0) still", x.now(0), 0);
+        // One comes in a day, and stays alone in each cell till the next one comes there.
+        ValveRiver slow = new ValveRiver();
+        slow.steady(0);
+        slow.plan(7, 1);
+        due.is("reaches(11, 2) slowly", slow.reaches(11, 2), 115);
     }
 
     private static void range() {
@@ -180,6 +185,10 @@ public final class AheadTest {
         due.is("enough(80) of 199", x.enough(80), Due.NONE);
         x.change(0, 2, 0);
         due.is("enough(0) of one who doesn't", x.enough(0), 0);
+        for (int want = 0; want <= 100; want++) {
+            x.change(0, 2, want);
+            due.is("enough(1) of " + want, x.enough(1), want == 100 ? Due.NONE : want);
+        }
         due.is("enough(81)", x.enough(81), Due.BEYOND);
         due.is("enough(-1)", x.enough(-1), Due.BEYOND);
         due.is("now(6) still", x.now(6), 80);
@@ -196,6 +205,13 @@ public final class AheadTest {
         due.is("hide(99, 0)", x.hide(99, 0), 0);
         wakefulPoet(x, 1);
         due.is("hide(50, 8) from the one further down", x.hide(50, 8), 7);
+        ValveRiver known = even();
+        for (int i = 0; i < 7; i++) {
+            known.watcher(0, 0);
+            known.change(i, 3, 0);
+        }
+        wakefulPoet(known, 0);
+        due.is("hide(50, 3) from the last one", known.hide(50, 3), 3);
         due.is("hide(100, 0)", x.hide(100, 0), Due.BEYOND);
         due.is("hide(-1, 0)", x.hide(-1, 0), Due.BEYOND);
         due.is("hide(0, 61)", x.hide(0, 61), Due.BEYOND);
