@@ -24,6 +24,7 @@ public final class RiverEdgesTest {
         hide();
         safe();
         sleep();
+        sleepLetsNothingIn();
         turns();
         due.end();
     }
@@ -354,10 +355,17 @@ public final class RiverEdgesTest {
         x.change(0, 3, 16);
         due.is("19: with the most", x.hide(99, 60), 3);
         x.change(0, 3, 1);
-        due.is("19: the last hour", x.hide(50, 7), 7);
+        for (int hour = 0; hour < 8; hour++) {
+            due.is("19: the first hour that isn't there yet", x.hide(50, hour), hour);
+        }
         due.is("19: no hour is better", x.hide(50, 8), 0);
+        for (int i = 1; i < 8; i++) {
+            x.watcher(5, 11);
+            x.change(i, 3, 0);
+        }
+        due.is("19: from the last one that doesn't know", x.hide(50, 7), 7);
         x.change(0, 3, 0);
-        due.is("19: from one that knows", x.hide(50, 7), 0);
+        due.is("19: from nobody, as all know", x.hide(50, 7), 0);
     }
 
     /** Half of 100 and 50 make 100 again; with less than 20 a bridge sees it, once a day. */
@@ -406,6 +414,23 @@ public final class RiverEdgesTest {
         fed.level(0, 200);
         due.is("21: not an hour, but that is no harm yet", fed.sleep(0), 0);
         due.is("21: nor 0", fed.sleep(1), Due.NONE);
+    }
+
+    /** A doubter that believes 19 bears 1: half of 4 is too much for it, half of 2 isn't, and 1 stays. */
+    private static void sleepLetsNothingIn() {
+        ValveRiver x = new ValveRiver();
+        x.steady(99);
+        x.watcher(4, 0);
+        x.change(0, 2, 999);
+        x.change(0, 3, 19);
+        int[] levels = {0, 1, 2, 3, 4, 5};
+        int[] most = {60, 60, 60, 60, 0, 0};
+        for (int i = 0; i < levels.length; i++) {
+            x.level(0, levels[i]);
+            due.is("21: shut above " + levels[i], x.sleep(0), most[i]);
+            due.is("21: open again above " + levels[i], x.sleep(1), Due.NONE);
+        }
+        due.is("21: the plan is as it was", x.now(6), 8 * 99);
     }
 
     private static void turns() {

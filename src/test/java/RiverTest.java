@@ -15,7 +15,6 @@ public final class RiverTest {
         thirst();
         sea();
         now();
-        lastHour();
         due.end();
     }
 
@@ -317,31 +316,5 @@ public final class RiverTest {
         }
         due.is("now(7)", x.now(7), Due.BEYOND);
         due.is("now(-1)", x.now(-1), Due.BEYOND);
-    }
-
-    /** Only an object used for more calls than are promised gets there; the bound stands all the same. */
-    private static void lastHour() {
-        ValveRiver x = new ValveRiver();
-        for (int i = 0; i < 1249; i++) {
-            x.go(80);
-        }
-        due.is("now(0)", x.now(0), 99920);
-        due.is("go(80) from 99920", x.go(80), Due.STATE);
-        due.is("go(81) from 99920", x.go(81), Due.BEYOND);
-        due.is("go(78) from 99920", x.go(78), 0);
-        due.is("nights(2) from 99998", x.nights(2), Due.STATE);
-        due.is("nights(1) from 99998", x.nights(1), 0);
-        due.is("now(0)", x.now(0), 99999);
-        due.is("go(1) from 99999", x.go(1), Due.STATE);
-        due.is("nights(1) from 99999", x.nights(1), Due.STATE);
-        due.is("nights(0) from 99999", x.nights(0), Due.BEYOND);
-        due.is("count(6): two draws alone", x.count(6), -1770082073);
-        due.is("now(0)", x.now(0), 99999);
-        due.is("status(4)", x.status(4), 4);
-        ValveRiver y = new ValveRiver();
-        for (int i = 0; i < 1249; i++) {
-            y.go(80);
-        }
-        due.is("go(79) from 99920", y.go(79), 0);
     }
 }

@@ -311,7 +311,12 @@ public final class TextEdgesTest {
             fault(word + "s" + rest, 0);
             fault("a" + word + rest, 0);
             fault(word.toUpperCase(java.util.Locale.ROOT) + rest, 0);
-            fault(word.substring(0, word.length() - 1) + "z" + rest, 0);
+            for (int i = 0; i < word.length(); i++) {
+                fault(word.substring(0, i) + "q" + word.substring(i + 1) + rest, 0);
+            }
+            for (char letter = 'a'; letter <= 'z'; letter++) {
+                fault(word + letter + rest, 0);
+            }
         }
         for (String word : new String[] {"at", "wants", "believes"}) {
             fault(word + " 1", 0);

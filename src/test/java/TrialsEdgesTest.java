@@ -4,7 +4,9 @@ public final class TrialsEdgesTest {
 
     public static void main(String[] args) {
         seat();
+        seatOfTheLastBelief();
         kindFor();
+        kindForOfTheLastBelief();
         wantFor();
         wantForOfTheMostThirst();
         watch();
@@ -41,6 +43,25 @@ public final class TrialsEdgesTest {
         x.level(0, 99);
         due.is("23: one that believes all has no more anywhere: the first where nothing shows", x.seat(1, 1), 2);
         due.is("23: it is where it was", x.of(1, 1), 5);
+        x.level(0, 0);
+        for (int cell = 0; cell < 12; cell++) {
+            x.level(cell, 10);
+            due.is("23: cell " + cell, x.seat(7, 1), cell);
+            x.level(cell, 0);
+        }
+    }
+
+    /** Every cell rises or falls by 100 but cell 5, which gets as much as it gives: 1 is left there, 0 elsewhere. */
+    private static void seatOfTheLastBelief() {
+        ValveRiver x = Rivers.dryBut(0, 0);
+        int[] levels = {200, 0, 200, 0, 200, 200, 0, 200, 0, 200, 0, 200};
+        for (int cell = 0; cell < 12; cell++) {
+            x.level(cell, levels[cell]);
+        }
+        x.watcher(0, 0);
+        x.change(0, 2, 999);
+        x.change(0, 3, 1);
+        due.is("23: a belief of 1 is most where all else is 0", x.seat(0, 1), 5);
     }
 
     private static void kindFor() {
@@ -71,6 +92,13 @@ public final class TrialsEdgesTest {
         bridge.change(0, 2, 100);
         due.is("24: the last kind", bridge.kindFor(0, 1), 6);
         due.is("24: it is of the kind that it was", bridge.of(0, 0), 0);
+    }
+
+    private static void kindForOfTheLastBelief() {
+        ValveRiver x = Rivers.dryBut(0, 99);
+        x.watcher(0, 0);
+        x.change(0, 3, 1);
+        due.is("24: a fish of 1 keeps it, all else know", x.kindFor(0, 1), 5);
     }
 
     private static void wantFor() {
@@ -116,6 +144,14 @@ public final class TrialsEdgesTest {
         due.is("26: the last cell in 60 hours", x.watch(60), 11);
         x.level(0, 2);
         due.is("26: the first of three alike", x.watch(60), 0);
+        x.level(0, 0);
+        x.level(11, 0);
+        for (int cell = 11; cell >= 0; cell--) {
+            x.level(cell, 2);
+            due.is("26: cell " + cell, x.watch(1), cell);
+            due.is("26: cell " + cell + " again", x.watch(60), cell);
+            x.level(cell, 0);
+        }
         // At cell 0 one comes in hour 3 of each day, and goes an hour later from the second day on: in 59 hours
         // 7 come and 6 go, in 60 hours 8 come. Cell 11 falls by 14 in all.
         ValveRiver daily = Rivers.dryBut(3, 1);
