@@ -79,6 +79,10 @@ public final class LanguageTest {
                 holds(c.getName() + "." + m.getName() + " has a name of its own", !names.contains(m.getName()));
             }
         }
+        for (Method m : ValveRiver.class.getDeclaredMethods()) {
+            holds(m.getName() + " is public, or has a name of its own",
+                Modifier.isPublic(m.getModifiers()) || !names.contains(m.getName()));
+        }
         all.add(ValveRiver.class);
         for (Class<?> c : all) {
             int fields = 0;
@@ -114,6 +118,20 @@ public final class LanguageTest {
             "Integer.numberOfTrailingZeros", "System.arraycopy");
         holds("only the library that is listed: " + library, allowed.containsAll(library));
         methodLengths(source);
+        objectsAreMadeWithTheRiver(code);
+    }
+
+    /** All calls live in one room, so rows are made in fields and constructors and used again. */
+    private static void objectsAreMadeWithTheRiver(String code) {
+        boolean inMethod = false;
+        for (String line : code.split("\n")) {
+            if (line.matches("( {4}| {8})\\w.*\\) \\{")) {
+                inMethod = !line.matches(" +(public )?[A-Z]\\w*\\(.*");
+            } else if (line.matches("( {4}| {8})}")) {
+                inMethod = false;
+            }
+            holds("no call makes an object: " + line.strip(), !inMethod || !line.matches(".*\\bnew\\b.*"));
+        }
     }
 
     private static void methodLengths(String source) {
